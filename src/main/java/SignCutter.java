@@ -25,11 +25,12 @@ public final class SignCutter {
     private final int width;
     private final int height;
 
-    /** A column is a set of rows: bit y is set if the spot in row y is dark (40 rows at most). */
+    /**
+     * The dark spots, twice: bit y of column x, and bit x of row y. Signs are looked at by columns,
+     * base and slant by rows, and neither has to go through all spots then.
+     */
     private final long[] columns;
-
-    /** 1 for each column to which a dark spot comes when sheared; column c stands at c + SHEAR_ROOM. */
-    private final int[] sheared;
+    private final long[] rows;
 
     /**
      * The cheapest ends of ways, a shelf of MOST_WAYS for each place at which such an end starts, the
@@ -51,7 +52,7 @@ public final class SignCutter {
         this.height = Math.max(1, Math.min(HIGHEST, height));
         int places = this.width + 1;
         columns = new long[this.width];
-        sheared = new int[this.width + 2 * SHEAR_ROOM];
+        rows = new long[this.height];
         ends = new long[places * MOST_WAYS];
         endCosts = new int[places * MOST_WAYS];
         endCounts = new int[places];
@@ -65,8 +66,10 @@ public final class SignCutter {
         }
         if (dark) {
             columns[x] |= 1L << y;
+            rows[y] |= 1L << x;
         } else {
             columns[x] &= ~(1L << y);
+            rows[y] &= ~(1L << x);
         }
     }
 
@@ -194,13 +197,7 @@ public final class SignCutter {
     }
 
     private int darkInRow(int y) {
-        int dark = 0;
-        for (int x = 0; x < width; x++) {
-            if (has(columns[x], y)) {
-                dark++;
-            }
-        }
-        return dark;
+        return Long.bitCount(rows[y]);
     }
 
     private int mostDarkInARow() {
@@ -235,19 +232,17 @@ public final class SignCutter {
         return (lastStrongRow() - firstStrongRow()) * 3 / 4 + 2;
     }
 
+    /** The columns go into two words: sheared, a line is up to 60 + 2 * 30 columns wide. */
     private int shearedColumns(int shear) {
-        Arrays.fill(sheared, 0);
-        int different = 0;
+        long near = 0;
+        long far = 0;
         for (int y = 0; y < height; y++) {
             int aside = SHEAR_ROOM + Math.floorDiv(shear * (height - 1 - y), SHEAR_DIVISOR);
-            for (int x = 0; x < width; x++) {
-                if (has(columns[x], y) && sheared[x + aside] == 0) {
-                    sheared[x + aside] = 1;
-                    different++;
-                }
-            }
+            near |= rows[y] << aside;
+            // In two steps, as a shift by 64 would be one by 0.
+            far |= rows[y] >>> 1 >>> 63 - aside;
         }
-        return different;
+        return Long.bitCount(near) + Long.bitCount(far);
     }
 
     // The places
