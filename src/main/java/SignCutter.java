@@ -1,5 +1,3 @@
-import java.util.Arrays;
-
 /**
  * A line of what is written, cut to signs: its base and middle, its slant, the places where it may
  * be cut, and the cheapest ways of cutting it, one behind the other.
@@ -164,7 +162,9 @@ public final class SignCutter {
         int until = lastDarkColumn() + 1;
         long cuttable = placesToCut(from, until);
         // Without a sign, the only end of a way is UNTIL alone.
-        Arrays.fill(tails, 0, until + 1, 1);
+        for (int place = 0; place <= until; place++) {
+            tails[place] = 1;
+        }
         for (int signs = 1; signs < k; signs++) {
             lengthenTails(from, until, cuttable);
         }
