@@ -700,7 +700,8 @@ public final class BoundaryTest {
     }
 
     private static void leastRowOfPlacesOfTheSameCost() {
-        sentence("of several with the same the one whose row of places is least (place by place, from the first one on)");
+        sentence("of several with the same the one whose row of places is least "
+            + "(place by place, from the first one on)");
         Line line = line("######");
         line.cut(40);
         dueWay("######", line, 1, 14, 0, 2, 6);

@@ -1,10 +1,13 @@
+import java.math.BigInteger;
 import java.util.ArrayList;
+import java.util.Arrays;
 import java.util.HashSet;
 import java.util.List;
 import java.util.Set;
 
-/** Compares the class with a slow one that tries every row of places, on many made-up lines. */
+/** Compares the class with a slow one, which on small lines tries every row of places, on many made-up lines. */
 public final class ReferenceTest {
+    private static final BigInteger BILLION = BigInteger.valueOf(1000000000);
     private static int wrong = 0;
     private static long seed = 20261115L;
 
@@ -180,6 +183,65 @@ public final class ReferenceTest {
             return ways;
         }
 
+        /** FROM, all that may be cut, UNTIL. */
+        List<Integer> stops() {
+            List<Integer> stops = new ArrayList<>(placesToCut());
+            stops.add(0, from());
+            stops.add(until());
+            return stops;
+        }
+
+        /** The 40 first of ways(), by the 40 first beginnings of ways up to each stop. */
+        List<Way> cheapestWays() {
+            List<List<Way>> begun = new ArrayList<>();
+            if (from() < 0) {
+                return new ArrayList<>();
+            }
+            List<Integer> stops = stops();
+            begun.add(List.of(new Way(List.of(from()), 0)));
+            for (int to = 1; to < stops.size(); to++) {
+                int place = stops.get(to);
+                List<Way> here = new ArrayList<>();
+                for (int start = 0; start < to; start++) {
+                    long sign = signCost(stops.get(start), place, base(2));
+                    for (Way way : begun.get(start)) {
+                        if (sign >= 0) {
+                            List<Integer> places = new ArrayList<>(way.places());
+                            places.add(place);
+                            here.add(new Way(places, way.cost() + sign + (place < until() ? 10L * touch(place) : 0)));
+                        }
+                    }
+                }
+                here.sort(ReferenceTest::compare);
+                begun.add(here.subList(0, Math.min(40, here.size())));
+            }
+            return begun.get(stops.size() - 1);
+        }
+
+        /** How many ways have 0, 1, .. and one more sign than there are columns. */
+        List<BigInteger> counts() {
+            BigInteger[] none = new BigInteger[width + 2];
+            Arrays.fill(none, BigInteger.ZERO);
+            if (from() < 0) {
+                return List.of(none);
+            }
+            List<Integer> stops = stops();
+            List<BigInteger[]> begun = new ArrayList<>();
+            for (int place : stops) {
+                BigInteger[] here = none.clone();
+                here[0] = begun.isEmpty() ? BigInteger.ONE : BigInteger.ZERO;
+                for (int start = 0; start < begun.size(); start++) {
+                    if (signCost(stops.get(start), place, 0) >= 0) {
+                        for (int signs = 1; signs < here.length; signs++) {
+                            here[signs] = here[signs].add(begun.get(start)[signs - 1]);
+                        }
+                    }
+                }
+                begun.add(here);
+            }
+            return List.of(begun.get(begun.size() - 1));
+        }
+
         long wayCost(List<Integer> places, int due) {
             long cost = 0;
             for (int i = 1; i < places.size(); i++) {
@@ -216,91 +278,110 @@ public final class ReferenceTest {
         }
     }
 
+    /** What one object was told; no object is asked more than 512 things in all, of which these are a part. */
+    private record Stroke(int x, int y, boolean dark) {
+    }
+
+    private static SignCutter painted(Slow slow, List<Stroke> strokes) {
+        SignCutter line = new SignCutter(slow.width, slow.height);
+        for (Stroke stroke : strokes) {
+            line.column(stroke.x(), stroke.y(), stroke.dark());
+        }
+        return line;
+    }
+
+    private static List<Stroke> newStrokes(Slow slow, int count, int dense) {
+        List<Stroke> strokes = new ArrayList<>();
+        for (int i = 0; i < count; i++) {
+            Stroke stroke = new Stroke(number(slow.width), number(slow.height), number(100) < dense);
+            strokes.add(stroke);
+            slow.dark[stroke.x()][stroke.y()] = stroke.dark();
+        }
+        return strokes;
+    }
+
     private static void compareLooks(String what, SignCutter line, Slow slow) {
         for (int which = -1; which <= 6; which++) {
             due(what + "base(" + which + ")", line.base(which), slow.base(which));
         }
         due(what + "slant()", line.slant(), slow.slant());
-    }
-
-    private static void compareWays(String what, SignCutter line, List<Way> ways, int width) {
-        for (int k = 0; k <= width + 1; k++) {
-            int signs = k;
-            long want = ways.stream().filter(way -> way.places().size() == signs + 1).count();
-            due(what + "plain(" + k + ")", line.plain(k), want);
-        }
-        int[] asked = {40, 1 + number(40), 1};
-        for (int k : asked) {
-            int found = line.cut(k);
-            due(what + "cut(" + k + ")", found, Math.min(k, ways.size()));
-            compareFound(what + "cut(" + k + "), ", line, ways, Math.min(k, ways.size()));
+        List<BigInteger> counts = slow.counts();
+        for (int k = 0; k < counts.size(); k++) {
+            due(what + "plain(" + k + ")", line.plain(k), counts.get(k).min(BILLION).longValueExact());
         }
     }
 
-    private static void compareFound(String what, SignCutter line, List<Way> ways, int found) {
-        for (int k = 0; k < found; k++) {
-            Way way = ways.get(k);
-            due(what + "cost(" + k + ")", line.cost(k), way.cost());
-            due(what + "signs(" + k + ")", line.signs(k), way.places().size() - 1);
-            for (int i = 0; i < way.places().size(); i++) {
-                due(what + "way(" + k + ", " + i + ")", line.way(k, i), way.places().get(i));
+    /** Some ways from each object, as all of them would be too many calls. */
+    private static void compareFound(String what, Slow slow, List<Stroke> strokes, int asked, List<Way> ways) {
+        int found = Math.min(asked, ways.size());
+        for (int first = 0; first == 0 || first < found; first += 3) {
+            SignCutter line = painted(slow, strokes);
+            due(what + "cut(" + asked + ")", line.cut(asked), found);
+            for (int k = first; k < Math.min(first + 3, found); k++) {
+                compareWay(what + "cut(" + asked + "), ", line, k, ways.get(k));
             }
-            due(what + "way(" + k + ", end)", line.way(k, way.places().size()), -1);
-        }
-        due(what + "cost(" + found + ")", line.cost(found), -1);
-    }
-
-    private static void paint(SignCutter line, Slow slow, int strokes, int dense) {
-        for (int i = 0; i < strokes; i++) {
-            int x = number(slow.width);
-            int y = number(slow.height);
-            boolean dark = number(100) < dense;
-            line.column(x, y, dark);
-            slow.dark[x][y] = dark;
+            due(what + "cut(" + asked + "), cost(" + found + ")", line.cost(found), -1);
         }
     }
 
+    private static void compareWay(String what, SignCutter line, int k, Way way) {
+        due(what + "cost(" + k + ")", line.cost(k), way.cost());
+        due(what + "signs(" + k + ")", line.signs(k), way.places().size() - 1);
+        for (int i = 0; i < way.places().size(); i++) {
+            due(what + "way(" + k + ", " + i + ")", line.way(k, i), way.places().get(i));
+        }
+        due(what + "way(" + k + ", end)", line.way(k, way.places().size()), -1);
+    }
+
+    /** Each line is painted on and cut again three times, the object that sees it all among them. */
     private static void smallLines() {
         for (int run = 0; run < 600; run++) {
-            int width = 1 + number(12);
-            int height = 1 + number(run % 3 == 0 ? 40 : 6);
-            SignCutter line = new SignCutter(width, height);
-            Slow slow = new Slow(width, height);
+            Slow slow = new Slow(1 + number(12), 1 + number(run % 3 == 0 ? 40 : 6));
+            SignCutter longUsed = new SignCutter(slow.width, slow.height);
+            List<Stroke> strokes = new ArrayList<>();
             for (int step = 0; step < 3; step++) {
-                paint(line, slow, 1 + number(width * height), 20 + number(80));
                 String what = "small line " + run + "." + step + ": ";
-                compareLooks(what, line, slow);
-                compareWays(what, line, slow.ways(), width);
+                int most = Math.min(75, slow.width * slow.height);
+                List<Stroke> more = newStrokes(slow, 1 + number(most), 20 + number(80));
+                strokes.addAll(more);
+                for (Stroke stroke : more) {
+                    longUsed.column(stroke.x(), stroke.y(), stroke.dark());
+                }
+                List<Way> ways = slow.ways();
+                compareLooks(what, longUsed, slow);
+                int asked = 1 + number(40);
+                due(what + "cut(" + asked + ")", longUsed.cut(asked), Math.min(asked, ways.size()));
+                for (int k = 0; k < Math.min(asked, ways.size()); k++) {
+                    due(what + "long used, cost(" + k + ")", longUsed.cost(k), ways.get(k).cost());
+                }
+                compareFound(what, slow, strokes, 40, ways);
+                compareFound(what, slow, strokes, asked, ways);
+                compareFound(what, slow, strokes, 1, ways);
+                compareCounts(what, slow, ways);
+                List<Way> first = ways.subList(0, Math.min(40, ways.size()));
+                due(what + "ways kept", slow.cheapestWays().equals(first) ? 1 : 0, 1);
             }
         }
     }
 
-    /** Too many ways to try them all: what is seen at a glance alone. */
+    /** The slow class's own counts, against the ways that it found by trying. */
+    private static void compareCounts(String what, Slow slow, List<Way> ways) {
+        List<BigInteger> counts = slow.counts();
+        for (int k = 0; k < counts.size(); k++) {
+            int signs = k;
+            long tried = ways.stream().filter(way -> way.places().size() == signs + 1).count();
+            due(what + "counted ways of " + k + " signs", counts.get(k).longValueExact(), tried);
+        }
+    }
+
+    /** Too many ways to try them all: the 40 cheapest to each place are kept, from left to right. */
     private static void wideLines() {
         for (int run = 0; run < 150; run++) {
-            int width = 40 + number(21);
-            int height = 20 + number(21);
-            SignCutter line = new SignCutter(width, height);
-            Slow slow = new Slow(width, height);
-            paint(line, slow, 1 + number(run % 2 == 0 ? 12 : 1500), 95);
-            compareLooks("wide line " + run + ": ", line, slow);
-            compareOwnCosts("wide line " + run + ": ", line, slow);
-        }
-    }
-
-    /** What is found must be ways in their order, each of which costs what it says. */
-    private static void compareOwnCosts(String what, SignCutter line, Slow slow) {
-        int found = line.cut(40);
-        Way before = null;
-        for (int k = 0; k < found; k++) {
-            List<Integer> places = new ArrayList<>();
-            for (int i = 0; i <= line.signs(k); i++) {
-                places.add(line.way(k, i));
-            }
-            Way way = new Way(places, line.cost(k));
-            due(what + "cost(" + k + ")", way.cost(), slow.wayCost(places, slow.base(2)));
-            due(what + "order at " + k, before == null || compare(before, way) < 0 ? 1 : 0, 1);
-            before = way;
+            Slow slow = new Slow(40 + number(21), 1 + number(run % 3 == 0 ? 40 : 5));
+            List<Stroke> strokes = newStrokes(slow, 1 + number(run % 2 == 0 ? 30 : 250), 95);
+            String what = "wide line " + run + ": ";
+            compareLooks(what, painted(slow, strokes), slow);
+            compareFound(what, slow, strokes, 40, slow.cheapestWays());
         }
     }
 
